@@ -123,12 +123,23 @@ public final class PackingsTest {
     }
 
     private static void leastIsInOrder() {
-        PackedBends x = new PackedBends();
-        x.set(-11, 21, 24, 28);
-        for (int k = 0; x.least(k) <= 5000 && k < 2000; k++) {
-            int bend = (int) x.least(k);
-            DUE.isTrue("11: least(" + k + ") has its turn", x.upTo(bend) > k && x.upTo(bend) - x.just(bend) <= k);
+        int[][] roots = {{-11, 21, 24, 28}, {-1, 2, 2, 3}, {-3, 5, 8, 8}, {-30, 31, 930, 931}};
+        for (int[] r : roots) {
+            PackedBends x = new PackedBends();
+            x.set(r[0], r[1], r[2], r[3]);
+            for (int k = 0; k <= 2000 && x.least(k) <= 5000; k++) {
+                inOrder(x, k, x.least(k));
+                // Asked first of all, it is the same.
+                PackedBends fresh = new PackedBends();
+                fresh.set(r[0], r[1], r[2], r[3]);
+                DUE.is("11: least(" + k + ") at once", fresh.least(k), x.least(k));
+            }
         }
+    }
+
+    private static void inOrder(PackedBends x, int k, long least) {
+        int bend = (int) least;
+        DUE.isTrue("11: least(" + k + ") has its turn", x.upTo(bend) > k && x.upTo(bend) - x.just(bend) <= k);
     }
 
     private static void remainders() {
@@ -198,6 +209,9 @@ public final class PackingsTest {
             int gap = x.gap(5000, k);
             DUE.isTrue("13: no bend, but its remainder: " + gap, x.just(gap) == 0 && (2124 >> gap % 12 & 1) == 1);
         }
+        x.set(-12, 25, 25, 28);
+        DUE.is("13: 1 may be one", x.gap(1, 0), 1);
+        DUE.is("13: and the only one", x.gap(1, -1), 1);
         x.set(-24, 48, 48, 72);
         // Bends are 24 times those of the first packing, so each remainder is 0: 12 and 24 are gaps, 48 is none.
         DUE.is("13: 12", x.gap(100, 0), 12);

@@ -109,7 +109,7 @@ public final class ShelvesTest {
     }
 
     private static void sorts() {
-        // Place 1 is above 0, 2 below 0, 3 and 4 come of 0.
+        // Bit 0: above 0; bit 1: below 0; bit 2: of 0.
         int[] taken = {1, 2, 4, 7};
         for (int sort = 0; sort < 4; sort++) {
             PackedBends x = new PackedBends();
@@ -118,6 +118,7 @@ public final class ShelvesTest {
             DUE.is("21: above 0, sort " + sort, x.lay(0, 0, 1), (taken[sort] & 1) != 0 ? 1 : PackedBends.SORT);
             DUE.is("21: below 0, sort " + sort, x.lay(0, 0, 2), (taken[sort] & 2) != 0 ? 1 : PackedBends.SORT);
             x.set(1, 1, 0, 0);
+            DUE.is("21: just above 0, sort " + sort, x.lay(0, 0, 1), (taken[sort] & 1) != 0 ? 1 : PackedBends.SORT);
             DUE.is("21: of 0, sort " + sort, x.lay(0, 0, 3), (taken[sort] & 4) != 0 ? 1 : PackedBends.SORT);
         }
     }
