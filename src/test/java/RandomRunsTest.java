@@ -11,11 +11,15 @@ public final class RandomRunsTest {
     private static final int[] ODD = {
         Integer.MIN_VALUE, Integer.MAX_VALUE, -100001, -100000, -99999, 1000000, 1000001, 5000, 5001, 4999, 2000, 2001, 1000000000};
 
+    private static final int CALLS = 512;
+    private static final int MOST_AT_ONCE = 3;
+
     private final Random random;
     private final Due due;
     private final PackedBends fast = new PackedBends();
     private final SlowBends slow = new SlowBends();
     private final boolean mayBeDear;
+    private int calls = 0;
 
     private RandomRunsTest(long seed, Due due, boolean mayBeDear) {
         this.random = new Random(seed);
@@ -27,15 +31,11 @@ public final class RandomRunsTest {
         Due due = new Due();
         for (int seed = 0; seed < 400 && due.wrong() < 20; seed++) {
             RandomRunsTest run = new RandomRunsTest(seed, due, seed % 8 == 0);
-            for (int call = 0; call < 512; call++) {
-                run.call(seed, random(run));
+            while (run.calls <= CALLS - MOST_AT_ONCE) {
+                run.call(seed, run.random.nextInt(24));
             }
         }
         due.end();
-    }
-
-    private static int random(RandomRunsTest run) {
-        return run.random.nextInt(24);
     }
 
     private int near(int low, int high) {
@@ -95,6 +95,7 @@ public final class RandomRunsTest {
     }
 
     private void check(int seed, String call, long got, long want) {
+        calls++;
         due.is("seed " + seed + ": " + call, got, want);
     }
 
@@ -113,8 +114,8 @@ public final class RandomRunsTest {
             }
             case 1 -> check(seed, "bend(" + place + ")", fast.bend(place), slow.bend(place));
             case 2, 23 -> {
-                int times = random.nextInt(3);
-                for (int i = 0; i <= times; i++) {
+                int times = 1 + random.nextInt(MOST_AT_ONCE);
+                for (int i = 0; i < times; i++) {
                     int at = inside(1, 4);
                     check(seed, "turn(" + at + ")", fast.turn(at), slow.turn(at));
                 }
