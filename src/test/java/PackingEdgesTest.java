@@ -11,6 +11,7 @@ public final class PackingEdgesTest {
     public static void main(String[] args) {
         upToFromLeastToMost();
         upToCountsTheEndItself();
+        firstQuestionOfANewObject();
         justFromLeastToMost();
         eachRowCounts();
         noPlaceTwiceRunning();
@@ -59,6 +60,22 @@ public final class PackingEdgesTest {
         for (int[] row : due) {
             DUE.is("9: upTo(" + row[0] + ")", x.upTo(row[0]), row[1]);
         }
+    }
+
+    /** A new object's packing is asked nothing before: at the least and the greatest end of what circles it has. */
+    private static void firstQuestionOfANewObject() {
+        DUE.is("9: upTo(0)", new PackedBends().upTo(0), 1);
+        DUE.is("9: upTo(1)", new PackedBends().upTo(1), 1);
+        DUE.is("9: upTo(2)", new PackedBends().upTo(2), 3);
+        DUE.is("10: just(-1)", new PackedBends().just(-1), 1);
+        DUE.is("10: just(0)", new PackedBends().just(0), 0);
+        DUE.is("10: just(1)", new PackedBends().just(1), 0);
+        DUE.is("11: least(0)", new PackedBends().least(0), -1);
+        DUE.is("11: least(1)", new PackedBends().least(1), 2);
+        DUE.is("11: least(2000)", new PackedBends().least(2000), 678);
+        DUE.is("13: gap(1, -1)", new PackedBends().gap(1, -1), 0);
+        DUE.is("13: gap(1, 0)", new PackedBends().gap(1, 0), NONE);
+        DUE.is("13: gap(78, 0)", new PackedBends().gap(78, 0), 78);
     }
 
     /** Promise 10: 'How many have just that BEND (-100000 .. 5000).' */

@@ -52,6 +52,12 @@ public final class WordEdgesTest {
             isWord(digit * 100000000 + (digit == 1 ? 21212121 : 12121212), isPlace || digit == 0);
             isWord((digit == 1 ? 121212120 : 212121210) + (digit == 1 || digit == 2 ? 3 : digit), isPlace);
         }
+        for (int unit = 10; unit <= 100000000; unit *= 10) {
+            for (int place = 1; place <= 4; place++) {
+                isWord(place * unit, false);
+                isWord(place * unit - 1, false);
+            }
+        }
     }
 
     /** 'none twice running': but again after another. */
