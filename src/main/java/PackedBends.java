@@ -654,7 +654,7 @@ public final class PackedBends {
 
     /** All quadruples that a root can be turned into, by their remainders alone. */
     private static final class Orbit {
-        // There are never more: tried out for each divisor and each four remainders.
+        // A good quadruple meets no more: tried out for each divisor and each four remainders that can be good.
         private static final int MOST_MET = 1220;
         private static final int BITS = 64;
 
